@@ -98,6 +98,9 @@ public final class ForecastsTest {
             Check.fails("P43 ticks " + ticks, Check.ARGUMENT, () -> bus.bestVeto(0, ticks));
         }
         Check.is("P43 vetoes end with the voting", plain().bestVeto(1, 2), -1);
+        BallotBus far = vetoes(5, 5);
+        far.answersIn(500, -1);
+        Check.is("P43 from now on", far.bestVeto(1, 2), 0);
     }
 
     private static void vetoPays() {
@@ -160,6 +163,10 @@ public final class ForecastsTest {
             + "ask x e 1;ask x d 1;ask x c 1;ask x b 1;ask x a 9;");
         Check.is("P45 five classes", five.bestBallot(4), 12340);
         Check.is("P45 two of five", five.bestBallot(1), 10234);
+        // Only with all its points turned round class e gets ahead of the others: 20 against 19, 18, 17, 16.
+        BallotBus last = Check.bus("class a;class b;class c;class d;class e;asker x credits 0 weight 5;"
+            + "asker y credits 0 weight 4;ask y a 20;ask y b 20;ask y c 20;ask y d 20;ask x e 1;");
+        Check.is("P45 the last of all ballots", last.bestBallot(1), 43210);
     }
 
     private static void bestBallotForTheTurn() {

@@ -8,6 +8,7 @@ public final class SetupTest {
         truncate();
         parse();
         parseStartsAnew();
+        parseForgetsEarlierTexts();
         faultyParseKeepsAll();
         setups();
         errors();
@@ -136,6 +137,40 @@ public final class SetupTest {
         Check.fails("P4 nothing to undo", Check.STATE, bus::undo);
     }
 
+    /** What texts, good and faulty ones, told does not show up in later ones. */
+    private static void parseForgetsEarlierTexts() {
+        String rich = "class a owing;class b rich;asker x credits 0 weight 5;asker y credits 7;tally pairs;turn 1;"
+            + "round 1;veto 9;line 9;silence 1;ask x a 2;ask y b 3;";
+        BallotBus bus = Check.bus(rich);
+        bus.run(2);
+        bus.veto(0, 0);
+        bus.cast(10);
+        for (int number = 0; number < 4; number++) {
+            Check.is("P4 faulty", Check.parse(bus, rich + "class"), -1);
+            Check.is("P4 good", Check.parse(bus, "class p;asker q credits 0;asker r credits 1;"), 1);
+            int[] due = {1, 2, 0, 0, 3, 6, 10, 0, 3, 0, 0, 0, 0, 0, 0, 0};
+            for (int what = 0; what < due.length; what++) {
+                Check.is("P4 anew count(" + what + ")", bus.count(what), due[what]);
+            }
+            for (int asker = 0; asker < 2; asker++) {
+                int[] first = {asker, 0, 1, 0, 1, 0, 0, 0, 0, 0};
+                for (int what = 0; what < first.length; what++) {
+                    Check.is("P4 anew asker(" + asker + ", " + what + ")", bus.asker(asker, what), first[what]);
+                }
+            }
+            Check.is("P4 anew manner", bus.kind(0, 0), 0);
+            Check.is("P4 anew progress", bus.progress(), -1);
+            Check.is("P4 anew names", Check.find(bus, false, "a") + Check.find(bus, true, "x"), -2);
+            bus.ask(0, 0, 3);
+            bus.run(4 + number);
+            Check.is("P4 anew wait", bus.meanWait(0), 2.0);
+            Check.is("P4 good", Check.parse(bus, rich), 2);
+            Check.is("P4 rich", bus.count(3) * 100 + bus.count(9) * 10 + bus.asker(0, 2), 225);
+            bus.run(3);
+            bus.veto(0, 1);
+        }
+    }
+
     private static void faultyParseKeepsAll() {
         BallotBus bus = Check.bus("class a;class b;asker x credits 99 weight 2;turn 2;round 2;ask x a 1;ask x b 2;");
         bus.run(2);
@@ -170,6 +205,7 @@ public final class SetupTest {
         }
         Check.is("P4 weight", bus.asker(0, 2), 9);
         Check.is("P4 no weight", bus.asker(1, 2), 1);
+        Check.is("P4 weight 1", Check.bus("class a;asker x credits 0 weight 1;").asker(0, 2), 1);
         Check.is("P4 credits", bus.asker(1, 0), 999);
         Check.is("P4 request", bus.request(0, 1), 3);
         Check.is("P4 request", bus.request(0, 2), 20);

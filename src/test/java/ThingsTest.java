@@ -304,5 +304,31 @@ public final class ThingsTest {
         }
         many.undo();
         Check.is("P16 undone", many.answer(0, 0), 73);
+        Check.is("P16 undone", many.answer(59, 0), 14);
+        ring();
+    }
+
+    /** Saved answers come back, also those that others have taken the places of. */
+    private static void ring() {
+        BallotBus bus = new BallotBus();
+        Check.fails("P16 none", Check.ELEMENT, () -> bus.answer(0, 0));
+        for (int number = 0; number < 70; number++) {
+            if (number == 30) {
+                bus.saveState();
+            }
+            bus.ask(0, 0, 1);
+            bus.run(1);
+        }
+        bus.restoreState();
+        for (int back = 0; back < 30; back++) {
+            Check.is("P16 restored answer(" + back + ", 0)", bus.answer(back, 0), 29 - back);
+        }
+        Check.fails("P16 no more than 30", Check.ELEMENT, () -> bus.answer(30, 0));
+        bus.ask(0, 0, 1);
+        bus.run(2);
+        Check.is("P16 one more", bus.answer(0, 0), 30);
+        bus.undo();
+        Check.is("P16 undone", bus.answer(0, 0), 29);
+        Check.fails("P16 undone", Check.ELEMENT, () -> bus.answer(30, 0));
     }
 }

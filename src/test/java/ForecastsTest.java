@@ -178,11 +178,16 @@ public final class ForecastsTest {
         Check.is("P45 y has the turn", bus.bestBallot(4), 10);
         Check.is("P45 too short for y", bus.bestBallot(3), 1);
         // A silent asker counts again when its turn with a cast ends, in tick 8: too late for the voting then.
-        BallotBus silent = Check.bus("class a;class b;asker x credits 0;turn 4;round 4;silence 1;"
-            + "ask x a 20;ask x b 1;");
+        BallotBus silent = Check.bus("class a;class b;asker x credits 0;turn 4;round 4;silence 1;");
         silent.run(5);
         Check.is("P45 x does not count", silent.votes(), 0);
-        Check.is("P45 first the long one", silent.bestBallot(15), 1);
+        silent.ask(0, 0, 3);
+        silent.ask(0, 0, 5);
+        silent.ask(0, 1, 2);
+        Check.is("P45 the order of tick 8 stays", silent.bestBallot(5), 1);
+        // In tick 13 class b, with its 2 ticks, is answered in time, and class a, with 3, is not.
+        silent.ask(0, 0, 3);
+        Check.is("P45 the voting in tick 12 counts", silent.bestBallot(10), 10);
     }
 
     private static void silentIn() {

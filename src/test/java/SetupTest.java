@@ -254,6 +254,9 @@ public final class SetupTest {
         error("class ;", 1, 6);
         error("classa;", 1, 0);
         error("Class a;", 1, 0);
+        error("glass a;", 1, 0);
+        error("clasp a;", 1, 0);
+        error("clas a;", 1, 0);
         error("class A;", 1, 6);
         error("class\ta;", 1, 5);
         error("class a\r;", 1, 7);

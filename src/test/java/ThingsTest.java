@@ -105,6 +105,8 @@ public final class ThingsTest {
         Check.is("P9 no cast", bus.asker(0, 5), 0);
         bus.cast(0);
         Check.is("P9 the turn has a cast", bus.asker(0, 5), 1);
+        Check.is("P9 silence until the turn passes on", bus.asker(0, 3), 99);
+        Check.is("P9 it does not count yet", bus.asker(0, 4), 0);
         bus.run(1);
         Check.is("P9 silence behind a cast", bus.asker(0, 3), 0);
         Check.is("P9 the next turn has no cast", bus.asker(0, 5), 0);

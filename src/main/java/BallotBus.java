@@ -1534,9 +1534,11 @@ public final class BallotBus {
             return serial;
         }
 
+        /** The vote of the asker counts again at once: a cast does not wait for the turn to end the silence. */
         void takeBallot(int[] row) {
             Rows.copy(row, ballots[turn]);
             hasCast = true;
+            accounts.silences[turn] = 0;
         }
 
         boolean allowsVeto(int asker, int kind) {
@@ -1582,7 +1584,9 @@ public final class BallotBus {
         }
 
         private void passTurn() {
-            accounts.silences[turn] = hasCast ? 0 : Math.min(MAX_SILENCE, accounts.silences[turn] + 1);
+            if (!hasCast) {
+                accounts.silences[turn] = Math.min(MAX_SILENCE, accounts.silences[turn] + 1);
+            }
             hasCast = false;
             turn = turn + 1 < setup.askers ? turn + 1 : 0;
         }

@@ -33,7 +33,7 @@ public final class ChangesTest {
     }
 
     private static void phases() {
-        // In tick 2 the order is voted before the turn passes on, so asker y still counts.
+        // The turn of y ends in tick 2 with a cast, so y counts in tick 3, and x, silent in its turn, does not.
         BallotBus bus = Check.bus("class a;class b;asker x credits 0;asker y credits 0 weight 2;turn 1;round 3;"
             + "silence 1;ask x a 9;ask x b 1;ask x a 1;");
         bus.run(2);
@@ -46,14 +46,18 @@ public final class ChangesTest {
         Check.is("P32 then class b", bus.answer(0, 0), 1);
         Check.is("P32 in tick 9", bus.answer(0, 4), 9);
         Check.is("P32 the rest of the length is credit", bus.asker(0, 0), 10);
-        BallotBus early = Check.bus("class a;class b;asker x credits 0;turn 2;round 2;silence 1;ask x a 1;");
+        BallotBus early = Check.bus("class a;class b;asker x credits 0;turn 2;round 4;silence 1;");
+        early.run(1);
         early.cast(10);
         early.run(4);
-        // In tick 4 x is silent, but only behind the voting.
-        early.cast(1);
-        early.run(1);
-        Check.is("P32 first the voting, then the turn", Check.order(early), "01");
-        Check.is("P32 no turn passes on at 0", early.count(12), 0);
+        // The turn from 2 to 4 has no cast, but it ends in tick 4 behind the voting.
+        Check.is("P32 first the voting, then the turn", Check.order(early), "10");
+        Check.is("P32 x is silent behind the voting", early.votes(), 0);
+        BallotBus start = Check.bus("class a;asker x credits 0;asker y credits 0;turn 2;");
+        start.run(1);
+        Check.is("P32 no turn passes on at 0", start.count(12), 0);
+        start.run(2);
+        Check.is("P32 the turn passes on in tick 2", start.count(12), 1);
     }
 
     private static void ask() {
@@ -136,6 +140,7 @@ public final class ChangesTest {
         }
         Check.is("P35 no change", bus.count(15), 4);
         Check.is("P35 no change", Check.ballot(bus, 1), "102");
+        castEndsSilence();
         BallotBus one = new BallotBus();
         Check.is("P35 one class", one.cast(0), 0);
         Check.fails("P35 one class", Check.ARGUMENT, () -> one.cast(1));
@@ -145,6 +150,30 @@ public final class ChangesTest {
         Check.is("P35 five classes", five.cast(43210), 0);
         Check.fails("P35 five classes", Check.ARGUMENT, () -> five.cast(3210));
         Check.fails("P35 five classes", Check.ARGUMENT, () -> five.cast(143210));
+    }
+
+    private static void castEndsSilence() {
+        BallotBus bus = Check.bus("class a;class b;asker x credits 0;asker y credits 0;turn 2;silence 2;");
+        bus.run(9);
+        String before = all(bus);
+        Check.is("P35 x and y are silent", bus.asker(0, 3) * 10 + bus.asker(1, 3), 22);
+        Check.fails("P35 no ballot", Check.ARGUMENT, () -> bus.cast(11));
+        Check.is("P35 no change", all(bus), before);
+        bus.saveState();
+        bus.cast(10);
+        Check.is("P35 the cast ends the silence of x", bus.asker(0, 3) * 10 + bus.asker(1, 3), 2);
+        Check.is("P35 x counts", bus.asker(0, 4) * 10 + bus.asker(1, 4), 10);
+        bus.undo();
+        Check.is("P40 the silence is back", all(bus), before);
+        bus.cast(10);
+        String later = all(bus);
+        bus.restoreState();
+        Check.is("P51 the silence is back", all(bus), before);
+        bus.cast(10);
+        bus.saveState();
+        bus.run(20);
+        bus.restoreState();
+        Check.is("P51 the cast is saved", all(bus), later);
     }
 
     private static void veto() {

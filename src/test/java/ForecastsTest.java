@@ -177,17 +177,17 @@ public final class ForecastsTest {
         bus.run(3);
         Check.is("P45 y has the turn", bus.bestBallot(4), 10);
         Check.is("P45 too short for y", bus.bestBallot(3), 1);
-        // A silent asker counts again when its turn with a cast ends, in tick 8: too late for the voting then.
+        // A cast makes the silent asker count at once, hence in the voting of tick 8, ahead of the end of its turn.
         BallotBus silent = Check.bus("class a;class b;asker x credits 0;turn 4;round 4;silence 1;");
         silent.run(5);
         Check.is("P45 x does not count", silent.votes(), 0);
         silent.ask(0, 0, 3);
         silent.ask(0, 0, 5);
         silent.ask(0, 1, 2);
-        Check.is("P45 the order of tick 8 stays", silent.bestBallot(5), 1);
-        // In tick 13 class b, with its 2 ticks, is answered in time, and class a, with 3, is not.
-        silent.ask(0, 0, 3);
-        Check.is("P45 the voting in tick 12 counts", silent.bestBallot(10), 10);
+        // In tick 9 class b, with its 2 ticks, is answered, and class a, with 5, is not.
+        Check.is("P45 b is not answered in time", silent.bestBallot(4), 1);
+        Check.is("P45 the ballot counts in tick 8", silent.bestBallot(5), 10);
+        Check.is("P45 x is silent as before", silent.votes() * 10 + silent.asker(0, 3), 1);
     }
 
     private static void silentIn() {
@@ -209,6 +209,12 @@ public final class ForecastsTest {
         for (char name = 'a'; name < 'i'; name++) {
             askers.append("asker ").append(name).append(" credits 0;");
         }
+        BallotBus again = new BallotBus();
+        again.run(13);
+        Check.is("P46 does not count in the fifth turn", again.silentIn(0), 0);
+        again.cast(0);
+        // The turns from 15 to 24 end without a cast: in the ticks 18, 21 and 24.
+        Check.is("P46 counts behind a cast", again.silentIn(0), 12);
         BallotBus slow = Check.bus(askers.toString());
         // The ninth turn of asker 0 ends in tick 1300.
         slow.run(300);

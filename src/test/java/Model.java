@@ -194,7 +194,7 @@ final class Model {
                 votings++;
             }
             if (time > 0 && time % turn == 0) {
-                silences.set(holder, cast ? 0 : Math.min(99, silences.get(holder) + 1));
+                silences.set(holder, Math.min(99, silences.get(holder) + (cast ? 0 : 1)));
                 cast = false;
                 holder = (holder + 1) % askers();
             }
@@ -243,6 +243,12 @@ final class Model {
             debts.set(asker, debts.get(asker) + veto - paid);
             vetoes.set(asker, vetoes.get(asker) + 1);
             vetoed.set(kind, true);
+        }
+
+        void cast(List<Integer> row) {
+            ballots.set(holder, row);
+            silences.set(holder, 0);
+            cast = true;
         }
 
         Job job(int serial) {
@@ -788,8 +794,7 @@ final class Model {
         List<Integer> row = world.digits(number);
         argument(row != null);
         change();
-        world.ballots.set(world.holder, row);
-        world.cast = true;
+        world.cast(row);
         return world.holder;
     }
 
@@ -852,8 +857,7 @@ final class Model {
         String best = "";
         for (List<Integer> row : world.orders()) {
             World other = world.copy();
-            other.ballots.set(other.holder, row);
-            other.cast = true;
+            other.cast(row);
             int answers = other.answersIn(ticks, world.holder);
             if (answers > most) {
                 most = answers;

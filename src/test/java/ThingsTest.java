@@ -105,13 +105,21 @@ public final class ThingsTest {
         Check.is("P9 no cast", bus.asker(0, 5), 0);
         bus.cast(0);
         Check.is("P9 the turn has a cast", bus.asker(0, 5), 1);
-        Check.is("P9 silence until the turn passes on", bus.asker(0, 3), 99);
-        Check.is("P9 it does not count yet", bus.asker(0, 4), 0);
+        Check.is("P9 the cast ends the silence at once", bus.asker(0, 3), 0);
+        Check.is("P9 it counts at once", bus.asker(0, 4), 1);
         bus.run(1);
-        Check.is("P9 silence behind a cast", bus.asker(0, 3), 0);
+        Check.is("P9 silence behind a turn with a cast", bus.asker(0, 3), 0);
         Check.is("P9 the next turn has no cast", bus.asker(0, 5), 0);
         bus.run(1);
         Check.is("P9 silence begins again", bus.asker(0, 3), 1);
+        BallotBus two = Check.bus("class a;asker x credits 0;asker y credits 0;turn 2;silence 9;");
+        two.run(9);
+        Check.is("P9 x is silent", two.asker(0, 3), 2);
+        two.cast(0);
+        Check.is("P9 x has cast", two.asker(0, 3), 0);
+        Check.is("P9 the silence of y stays", two.asker(1, 3), 2);
+        two.cast(0);
+        Check.is("P9 x has cast again", two.asker(0, 3), 0);
     }
 
     private static void creditsHaveAnEnd() {

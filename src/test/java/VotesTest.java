@@ -183,8 +183,34 @@ public final class VotesTest {
         bus.run(1);
         Check.is("P24 all are silent", bus.votes(), 0);
         bus.cast(12);
-        bus.run(3);
         Check.is("P24 x has cast", bus.votes(), 3);
+        bus.run(3);
+        Check.is("P24 x had cast", bus.votes(), 3);
+        castCountsAtOnce();
+    }
+
+    private static void castCountsAtOnce() {
+        BallotBus one = new BallotBus();
+        one.run(13);
+        Check.is("P24 four turns without a cast", one.votes(), 0);
+        one.cast(0);
+        Check.is("P24 a cast in the fifth turn", one.votes(), 1);
+        one.undo();
+        Check.is("P24 the cast is undone", one.votes(), 0);
+        BallotBus bus = silent();
+        bus.cast(102);
+        Check.is("P17 the ballot counts at once", bus.points(1), 2);
+        Check.is("P18 the ballot counts at once", bus.firsts(1, 0), 1);
+        Check.is("P19 the ballot counts at once", bus.beats(1, 0), true);
+        Check.is("P20 the ballot counts at once", bus.wins(1), 2);
+        Check.is("P21 the ballot counts at once", bus.champion(), 1);
+        Check.is("P22 the ballot counts at once", Check.voted(bus, 0), "102");
+        Check.is("P23 the ballot counts at once", bus.isDecisive(0), true);
+        Check.is("P27 the ballot counts at once", Check.middle(bus), "102");
+        Check.is("P12 the order stays until the voting", Check.order(bus), "210");
+        // The voting of tick 6 comes ahead of the end of the turn.
+        bus.run(2);
+        Check.is("P12 the ballot counts in the voting", Check.order(bus), "102");
     }
 
     private static void differences() {

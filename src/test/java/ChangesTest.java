@@ -1,3 +1,5 @@
+import java.util.function.Consumer;
+
 /** Promises 32 to 40 and 48 to 51: changes, output and state. */
 public final class ChangesTest {
     public static void main(String[] args) {
@@ -15,6 +17,7 @@ public final class ChangesTest {
         undoLimits();
         output();
         state();
+        stateInPlaceOfAnother();
         Check.end();
     }
 
@@ -155,25 +158,25 @@ public final class ChangesTest {
     private static void castEndsSilence() {
         BallotBus bus = Check.bus("class a;class b;asker x credits 0;asker y credits 0;turn 2;silence 2;");
         bus.run(9);
-        String before = all(bus);
+        String before = Check.all(bus);
         Check.is("P35 x and y are silent", bus.asker(0, 3) * 10 + bus.asker(1, 3), 22);
         Check.fails("P35 no ballot", Check.ARGUMENT, () -> bus.cast(11));
-        Check.is("P35 no change", all(bus), before);
+        Check.is("P35 no change", Check.all(bus), before);
         bus.saveState();
         bus.cast(10);
         Check.is("P35 the cast ends the silence of x", bus.asker(0, 3) * 10 + bus.asker(1, 3), 2);
         Check.is("P35 x counts", bus.asker(0, 4) * 10 + bus.asker(1, 4), 10);
         bus.undo();
-        Check.is("P40 the silence is back", all(bus), before);
+        Check.is("P40 the silence is back", Check.all(bus), before);
         bus.cast(10);
-        String later = all(bus);
+        String later = Check.all(bus);
         bus.restoreState();
-        Check.is("P51 the silence is back", all(bus), before);
+        Check.is("P51 the silence is back", Check.all(bus), before);
         bus.cast(10);
         bus.saveState();
         bus.run(20);
         bus.restoreState();
-        Check.is("P51 the cast is saved", all(bus), later);
+        Check.is("P51 the cast is saved", Check.all(bus), later);
     }
 
     private static void veto() {
@@ -264,32 +267,6 @@ public final class ChangesTest {
         Check.is("P39 no change", bus.count(15) * 10 + bus.kind(1, 0), 20);
     }
 
-    /** All that can be asked of a bus, as one text. */
-    private static String all(BallotBus bus) {
-        StringBuilder text = new StringBuilder();
-        for (int what = 0; what < 15; what++) {
-            text.append(bus.count(what)).append(' ');
-        }
-        for (int asker = 0; asker < bus.count(1); asker++) {
-            for (int what = 0; what < 10; what++) {
-                text.append(bus.asker(asker, what)).append(' ');
-            }
-            text.append(Check.ballot(bus, asker)).append(' ').append(bus.share(asker)).append(' ');
-        }
-        for (int kind = 0; kind < bus.count(0); kind++) {
-            for (int what = 0; what < 6; what++) {
-                text.append(bus.kind(kind, what)).append(' ');
-            }
-            text.append(Check.line(bus, kind)).append(' ').append(bus.meanWait(kind)).append(' ');
-        }
-        for (int back = 0; back < Math.min(60, bus.count(10)); back++) {
-            for (int what = 0; what < 6; what++) {
-                text.append(bus.answer(back, what)).append(' ');
-            }
-        }
-        return text.append(bus.progress()).append(' ').append(Check.order(bus)).toString();
-    }
-
     private static BallotBus busy() {
         BallotBus bus = Check.bus("class a;class b short;asker x credits 9;asker y credits 0;turn 2;round 3;"
             + "veto 4;line 9;ask x a 2;ask y b 3;ask y b 2;ask x a 2;");
@@ -298,18 +275,24 @@ public final class ChangesTest {
     }
 
     private static void undoEach() {
+        undoOf("run", bus -> bus.run(1));
+        undoOf("run far", bus -> bus.run(500));
+        undoOf("ask", bus -> bus.ask(1, 0, 7));
+        undoOf("cancel", bus -> bus.cancel(1));
+        undoOf("cast", bus -> bus.cast(10));
+        undoOf("veto", bus -> bus.veto(1, 0));
+        undoOf("payBack", bus -> bus.payBack(0));
+        undoOf("setTally", bus -> bus.setTally(2));
+        undoOf("setManner", bus -> bus.setManner(0, 2));
+    }
+
+    private static void undoOf(String name, Consumer<BallotBus> change) {
         BallotBus bus = busy();
-        String before = all(bus);
-        String[] names = {"run", "ask", "cancel", "cast", "veto", "payBack", "setTally", "setManner", "run far"};
-        Runnable[] changes = {() -> bus.run(1), () -> bus.ask(1, 0, 7), () -> bus.cancel(1), () -> bus.cast(10),
-            () -> bus.veto(1, 0), () -> bus.payBack(0), () -> bus.setTally(2), () -> bus.setManner(0, 2),
-            () -> bus.run(500)};
-        for (int index = 0; index < names.length; index++) {
-            changes[index].run();
-            Check.is("P40 a change: " + names[index], bus.count(15), 2);
-            Check.is("P40 undo " + names[index], bus.undo(), 1);
-            Check.is("P40 all is as before " + names[index], all(bus), before);
-        }
+        String before = Check.all(bus);
+        change.accept(bus);
+        Check.is("P40 a change: " + name, bus.count(15), 2);
+        Check.is("P40 undo " + name, bus.undo(), 1);
+        Check.is("P40 all is as before " + name, Check.all(bus), before);
         Check.is("P40 the serial number is free again", bus.ask(0, 0, 1), 4);
         bus.undo();
         Check.is("P40 undo to the text", bus.undo(), 0);
@@ -317,28 +300,32 @@ public final class ChangesTest {
         Check.fails("P40 none", Check.STATE, bus::undo);
     }
 
+    private static String lines(BallotBus bus) {
+        return Check.line(bus, 0) + "/" + Check.line(bus, 1) + "/" + bus.count(3) + "/" + bus.count(11);
+    }
+
     private static void undoLimits() {
         BallotBus bus = busy();
         String[] states = new String[12];
         for (int index = 0; index < 12; index++) {
-            states[index] = all(bus);
+            states[index] = lines(bus);
             bus.ask(0, index % 2, 1 + index);
         }
         Check.is("P40 eight", bus.count(15), 8);
         Check.fails("P40 a refused call is no change", Check.ARGUMENT, () -> bus.run(0));
         for (int left = 7; left >= 5; left--) {
             Check.is("P40 left", bus.undo(), left);
-            Check.is("P40 state " + left, all(bus), states[left + 4]);
+            Check.is("P40 state " + left, lines(bus), states[left + 4]);
         }
         bus.setTally(1);
         Check.is("P40 one more", bus.count(15), 6);
         Check.is("P40 undo it", bus.undo(), 5);
         for (int left = 4; left >= 0; left--) {
             Check.is("P40 left", bus.undo(), left);
-            Check.is("P40 state " + left, all(bus), states[left + 4]);
+            Check.is("P40 state " + left, lines(bus), states[left + 4]);
         }
         Check.fails("P40 none", Check.STATE, bus::undo);
-        Check.is("P40 nothing happened", all(bus), states[4]);
+        Check.is("P40 nothing happened", lines(bus), states[4]);
         BallotBus kept = busy();
         kept.saveState();
         kept.run(1);
@@ -393,7 +380,7 @@ public final class ChangesTest {
         Check.fails("P51 nothing saved", Check.STATE, bus::restoreState);
         bus.cast(10);
         bus.veto(1, 1);
-        String before = all(bus);
+        String before = Check.all(bus);
         Check.is("P50 time", bus.saveState(), 3);
         Check.is("P50 no change", bus.count(15), 3);
         bus.run(7);
@@ -405,7 +392,7 @@ public final class ChangesTest {
         bus.feed(0x61000000, 0, 0, 0, 0);
         bus.truncate(1);
         Check.is("P51 time", bus.restoreState(), 3);
-        Check.is("P51 all is as it was", all(bus), before);
+        Check.is("P51 all is as it was", Check.all(bus), before);
         Check.is("P51 the buffer stays", bus.find(false), 0);
         Check.is("P51 the error stays", bus.errorCode(), 1);
         Check.is("P51 the output stays", Check.output(bus), "a > b");
@@ -413,14 +400,22 @@ public final class ChangesTest {
         Check.fails("P51 nothing to undo", Check.STATE, bus::undo);
         bus.run(1);
         Check.is("P51 it stays saved", bus.restoreState(), 3);
-        Check.is("P51 all is as it was", all(bus), before);
+        Check.is("P51 all is as it was", Check.all(bus), before);
+    }
+
+    private static void stateInPlaceOfAnother() {
+        BallotBus bus = busy();
+        bus.saveState();
+        bus.cast(10);
+        bus.veto(1, 1);
+        String before = Check.all(bus);
         bus.run(5);
         Check.is("P50 in place of the earlier one", bus.saveState(), 8);
-        String later = all(bus);
-        Check.is("P50 undo does not touch it", bus.undo(), 0);
-        Check.is("P51 undone", all(bus), before);
+        String later = Check.all(bus);
+        Check.is("P50 undo does not touch it", bus.undo(), 3);
+        Check.is("P51 undone", Check.all(bus), before);
         Check.is("P51 time", bus.restoreState(), 8);
-        Check.is("P51 the later one", all(bus), later);
+        Check.is("P51 the later one", Check.all(bus), later);
         Check.parse(bus, "class a;asker a credits 0;");
         Check.fails("P51 a parse forgets it", Check.STATE, bus::restoreState);
     }

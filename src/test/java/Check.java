@@ -99,15 +99,18 @@ final class Check {
 
     static String output(BallotBus bus) {
         StringBuilder text = new StringBuilder();
-        for (int index = 0; bus.outputByte(index) != BallotBus.NONE; index++) {
-            text.append((char) bus.outputByte(index));
+        int value = bus.outputByte(0);
+        for (int index = 1; value != BallotBus.NONE; index++) {
+            text.append((char) value);
+            value = bus.outputByte(index);
         }
         return text.toString();
     }
 
     static String order(BallotBus bus) {
         StringBuilder text = new StringBuilder();
-        for (int place = 0; place < bus.count(0); place++) {
+        int kinds = bus.count(0);
+        for (int place = 0; place < kinds; place++) {
             text.append(bus.order(place));
         }
         return text.toString();
@@ -115,7 +118,8 @@ final class Check {
 
     static String voted(BallotBus bus, int tally) {
         StringBuilder text = new StringBuilder();
-        for (int place = 0; place < bus.count(0); place++) {
+        int kinds = bus.count(0);
+        for (int place = 0; place < kinds; place++) {
             text.append(bus.voted(tally, place));
         }
         return text.toString();
@@ -123,7 +127,8 @@ final class Check {
 
     static String middle(BallotBus bus) {
         StringBuilder text = new StringBuilder();
-        for (int place = 0; place < bus.count(0); place++) {
+        int kinds = bus.count(0);
+        for (int place = 0; place < kinds; place++) {
             text.append(bus.middle(place));
         }
         return text.toString();
@@ -131,7 +136,8 @@ final class Check {
 
     static String ballot(BallotBus bus, int asker) {
         StringBuilder text = new StringBuilder();
-        for (int place = 0; place < bus.count(0); place++) {
+        int kinds = bus.count(0);
+        for (int place = 0; place < kinds; place++) {
             text.append(bus.ballot(asker, place));
         }
         return text.toString();
@@ -139,9 +145,50 @@ final class Check {
 
     static String line(BallotBus bus, int kind) {
         StringBuilder text = new StringBuilder();
-        for (int index = 0; index < bus.kind(kind, 1); index++) {
+        int size = bus.kind(kind, 1);
+        for (int index = 0; index < size; index++) {
             text.append(index == 0 ? "" : " ").append(bus.line(kind, index));
         }
         return text.toString();
+    }
+
+    /** All that can be asked of a bus about its present state, as one text. */
+    static String all(BallotBus bus) {
+        StringBuilder text = new StringBuilder();
+        for (int what = 0; what < 15; what++) {
+            text.append(bus.count(what)).append(' ');
+        }
+        int askers = bus.count(1);
+        for (int asker = 0; asker < askers; asker++) {
+            for (int what = 0; what < 10; what++) {
+                text.append(bus.asker(asker, what)).append(' ');
+            }
+            text.append(ballot(bus, asker)).append(' ').append(bus.share(asker)).append(' ');
+        }
+        int kinds = bus.count(0);
+        for (int kind = 0; kind < kinds; kind++) {
+            for (int what = 0; what < 6; what++) {
+                text.append(bus.kind(kind, what)).append(' ');
+            }
+            text.append(bus.meanWait(kind)).append(' ');
+            int size = bus.kind(kind, 1);
+            for (int index = 0; index < size; index++) {
+                appendRequest(bus, bus.line(kind, index), text);
+            }
+        }
+        appendRequest(bus, bus.progress(), text);
+        for (int back = Math.min(60, bus.count(10)) - 1; back >= 0; back--) {
+            for (int what = 0; what < 6; what++) {
+                text.append(bus.answer(back, what)).append(' ');
+            }
+        }
+        return text.append(order(bus)).toString();
+    }
+
+    private static void appendRequest(BallotBus bus, int serial, StringBuilder text) {
+        text.append('#').append(serial).append(' ');
+        for (int what = 0; what < 5 && serial != BallotBus.NONE; what++) {
+            text.append(bus.request(serial, what)).append(' ');
+        }
     }
 }

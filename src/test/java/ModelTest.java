@@ -2,7 +2,9 @@ import java.nio.charset.StandardCharsets;
 
 /** Compares a bus with the model over runs of calls that are the same each time. */
 public final class ModelTest {
-    private static final int RUNS = 400;
+    private static final int RUNS = 800;
+    /** An object answers for this many calls; a text takes at most 25 feeds and four calls more. */
+    private static final int CALLS = 512, TEXT_CALLS = 29;
     private static final String[] WORDS = {"class", "short", "rich", "owing", "asker", "credits", "weight", "tally",
         "points", "firsts", "pairs", "turn", "round", "veto", "line", "silence", "ask", ";", ";", ";", "a", "b", "x",
         "abcdef", "abcdefg", "0", "1", "9", "20", "21", "050", "0001", "999", " ", "\n", "?", "\t", "A"};
@@ -16,6 +18,7 @@ public final class ModelTest {
     private static final String[] DEAR = {"bestVeto", "bestTally", "bestBallot"};
 
     private static long seed;
+    private static int calls;
 
     private static int below(int bound) {
         seed = seed * 6364136223846793005L + 1442695040888963407L;
@@ -46,13 +49,13 @@ public final class ModelTest {
             text.append("class ").append((char) ('a' + kind)).append(pick("", " short", " rich", " owing")).append(";");
         }
         for (int asker = 0; asker < askers; asker++) {
-            text.append("asker ").append((char) ('p' + asker)).append(" credits ").append(pick("0", "5", "12", "990"))
-                .append(pick("", " weight 2", " weight 3")).append(";");
+            text.append("asker ").append((char) ('p' + asker)).append(" credits ").append(pick("0", "5", "12", "990", "999"))
+                .append(pick("", " weight 2", " weight 3", " weight 9")).append(";");
         }
         text.append(pick("", "tally points;", "tally firsts;", "tally pairs;", "tally pairs;"));
-        text.append(pick("", "turn 1;", "turn 1;", "turn 2;", "turn 4;"));
-        text.append(pick("", "round 1;", "round 3;", "round 4;", "round 9;"));
-        text.append(pick("", "veto 0;", "veto 3;", "veto 7;"));
+        text.append(pick("", "turn 1;", "turn 1;", "turn 2;", "turn 4;", "turn 20;"));
+        text.append(pick("", "round 1;", "round 3;", "round 4;", "round 9;", "round 50;"));
+        text.append(pick("", "veto 0;", "veto 3;", "veto 7;", "veto 99;"));
         text.append(pick("", "line 6;", "line 20;", "line 99;"));
         text.append(pick("", "silence 1;", "silence 2;", "silence 9;"));
         while (text.length() < 480 && below(20) != 0) {
@@ -70,14 +73,17 @@ public final class ModelTest {
                 int value = start + index < bytes.length ? bytes[start + index] & 255 : below(256);
                 words[index / 4] = words[index / 4] << 8 | value;
             }
+            calls++;
             Check.is("feed", bus.feed(words[0], words[1], words[2], words[3], words[4]), model.feed(words));
         }
+        calls++;
         int length = below(30) == 0 ? below(600) - 50 : bytes.length;
         Check.is("truncate", bus.truncate(length) ? 1 : 0, model.truncate(length));
     }
 
     private static void parse(BallotBus bus, Model model, String text) {
         put(bus, model, text);
+        calls += 3;
         Check.is("parse " + text, bus.parse(), model.parse());
         Check.is("code of " + text, bus.errorCode(), model.code);
         Check.is("offset of " + text, bus.errorOffset(), model.offset);
@@ -104,7 +110,8 @@ public final class ModelTest {
     private static void texts() {
         BallotBus bus = new BallotBus();
         Model model = new Model();
-        for (int number = 0; number < 15; number++) {
+        calls = 0;
+        while (calls <= CALLS - TEXT_CALLS) {
             parse(bus, model, strange());
         }
     }
@@ -112,19 +119,21 @@ public final class ModelTest {
     private static void play(int run) {
         BallotBus bus = new BallotBus();
         Model model = new Model();
+        calls = 0;
         if (below(20) != 0) {
             parse(bus, model, setup());
         }
-        for (int number = 0; number < 420; number++) {
+        while (calls <= CALLS - TEXT_CALLS) {
             String name = below(3) == 0 ? pick(CHANGES) : below(20) == 0 ? pick(DEAR) : pick(ASKS);
             if (below(150) == 0) {
                 parse(bus, model, below(3) == 0 ? setup() : strange());
             } else if (below(60) == 0) {
                 put(bus, model, pick("a", "b", "e", "p", "q", "abcdef", " a", ""));
                 boolean asker = below(2) == 0;
+                calls++;
                 Check.is("find", bus.find(asker), model.find(asker));
             } else {
-                compare("run " + run + " call " + number + " ", bus, model, name);
+                compare("run " + run + " call " + (calls + 1) + " ", bus, model, name);
             }
         }
     }
@@ -181,6 +190,7 @@ public final class ModelTest {
         int c = argument(name, 2, model);
         String due;
         String got;
+        calls++;
         try {
             due = "" + model.call(name, a, b, c);
         } catch (RuntimeException e) {

@@ -511,6 +511,18 @@ public final class ChangeEdgesTest {
         BallotBus all = Check.bus("class a;class b;class c;asker x credits 0;veto 0;round 50;ask x a 1;");
         Check.is("P43 as many as without a veto", all.bestVeto(0, 500), -1);
         Check.is("P43 none waits", new BallotBus().bestVeto(0, 500), -1);
+        // A debt would put y in front, but there is no class to veto for it but the one that has the requests.
+        for (int kinds = 1; kinds <= 5; kinds++) {
+            StringBuilder text = new StringBuilder("asker x credits 0;asker y credits 0;veto 5;line 5;round 50;");
+            for (int kind = 0; kind < kinds; kind++) {
+                text.append("class ").append((char) ('a' + kind)).append(" owing;");
+            }
+            BallotBus debt = Check.bus(text.toString());
+            debt.run(1);
+            debt.ask(0, 0, 9);
+            debt.ask(1, 0, 1);
+            Check.is("P43 with " + kinds + " classes", debt.bestVeto(1, 1), kinds == 1 ? -1 : 1);
+        }
     }
 
     private static void bestOnATie() {

@@ -567,6 +567,8 @@ public final class VoteEdgesTest {
         Check.is("P23 x counts, but y decides", bus.isDecisive(0), false);
         bus.cast(10);
         Check.is("P9 y has the turn and has cast", bus.asker(1, 5), 1);
+        bus.answersIn(499, -1);
+        Check.is("P9 y has the turn and has cast", bus.asker(0, 5) * 10 + bus.asker(1, 5), 1);
         Check.is("P23 y decides", bus.isDecisive(1), true);
         bus.bestBallot(100);
         Check.is("P23 y decides", bus.isDecisive(1), true);

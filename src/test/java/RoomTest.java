@@ -89,7 +89,7 @@ public final class RoomTest {
         int made = 2 * ((TEXT.length() + 19) / 20) + 4;
         long sum = 0;
         long before = meter.getCurrentThreadAllocatedBytes();
-        for (int call = made; call <= CALLS; call += 24) {
+        for (int call = made; call + 24 <= CALLS; call += 24) {
             sum += changes(bus) + looks(bus);
         }
         long bytes = meter.getCurrentThreadAllocatedBytes() - before;
